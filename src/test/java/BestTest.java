@@ -95,6 +95,11 @@ public final class BestTest {
     private static void confideIsBelieved() {
         WhisperSeats x = pair(Check.PERSON, Check.set(0), Check.WIFE, Check.set(5));
         Check.due("confide(0, 1) to a person", x.confide(0, 1), 1);
+        x.set(0, 1, Check.set(5));
+        x.set(1, 1, 0);
+        Check.due("confide(0, 1) to a person that knows 5", x.confide(0, 1), 0);
+        WhisperSeats y = pair(Check.WIFE, Check.set(7), Check.WIFE, Check.set(6));
+        Check.due("confide(1, 1), 7 being known to another one", y.confide(1, 1), 7);
     }
 
     private static void enough() {
@@ -137,8 +142,12 @@ public final class BestTest {
         WhisperSeats x = pair(Check.ACTOR, Check.set(5), Check.SPY, 0);
         x.sham(Check.set(5));
         Check.due("doubt(1), a sham one made true", x.doubt(1), 5);
-        WhisperSeats y = new WhisperSeats();
-        Check.due("doubt(60) of nobody", y.doubt(60), 0);
+        WhisperSeats y = pair(Check.ACTOR, Check.set(0), Check.SPY, Check.set(1));
+        y.set(1, 2, Check.set(1));
+        y.sham(Check.set(0));
+        Check.due("doubt(1), 0 made true", y.doubt(1), 0);
+        WhisperSeats z = new WhisperSeats();
+        Check.due("doubt(60) of nobody", z.doubt(60), 0);
     }
 
     private static void wisest() {

@@ -10,11 +10,14 @@ public final class HoursTest {
         moon();
         heardIsHeld();
         comingInTurn();
+        comingAgain();
+        hoursState();
         sittersTurned();
         loverStaysByWhatItHears();
         now();
         on();
         knows();
+        knowsIn200();
         out();
         meet();
         Check.end();
@@ -175,6 +178,30 @@ public final class HoursTest {
         Check.due("last 1", x.now(7), 1);
     }
 
+    private static void comingAgain() {
+        WhisperSeats x = Check.tuesday(0, 0);
+        x.sit(1, 1);
+        x.hours(1);
+        Check.due("0 came last", x.now(7), 0);
+        x.sit(0, -1);
+        x.hours(1);
+        Check.due("0 comes again, round past 1", x.now(3), 0);
+    }
+
+    /** More than the 512 calls that the document speaks of; the class keeps the rule behind them all the same. */
+    private static void hoursState() {
+        WhisperSeats x = new WhisperSeats();
+        for (int i = 0; i < 999; i++) {
+            x.hours(100);
+        }
+        Check.due("hours(100)", x.hours(100), Check.STATE);
+        Check.due("hours(101)", x.hours(101), Check.BEYOND);
+        Check.due("hours(99)", x.hours(99), 0);
+        Check.due("now(0)", x.now(0), 99999);
+        Check.due("hours(1)", x.hours(1), Check.STATE);
+        Check.due("now(0)", x.now(0), 99999);
+    }
+
     private static void sittersTurned() {
         WhisperSeats x = Check.tuesday(Check.GENERAL);
         x.sit(0, 0);
@@ -260,6 +287,36 @@ public final class HoursTest {
         Check.due("knows(-1, 0)", x.knows(-1, 0), Check.BEYOND);
         Check.due("status(3)", x.status(3), 1);
         Check.due("nothing changes", x.now(0), 24);
+    }
+
+    /** Secret 3 takes more than 201 hours from the spy to the actor. */
+    private static WhisperSeats slowOnes() {
+        WhisperSeats x = new WhisperSeats();
+        Check.people(x, Check.ACTOR, Check.SPY, Check.GENERAL, Check.WIFE, Check.WIFE);
+        x.set(1, 1, Check.set(3));
+        return x;
+    }
+
+    private static void go(WhisperSeats x, int hours) {
+        for (int i = 0; i < hours; i++) {
+            x.hours(1);
+        }
+    }
+
+    private static void knowsIn200() {
+        WhisperSeats x = slowOnes();
+        int takes = 0;
+        while (takes < 400 && (x.of(0, 1) & Check.set(3)) == 0) {
+            x.hours(1);
+            takes++;
+        }
+        Check.due("it takes long", takes > 201 && takes < 400 ? 1 : 0, 1);
+        WhisperSeats just = slowOnes();
+        go(just, takes - 200);
+        Check.due("knows(0, 3) in 200 hours", just.knows(0, 3), 200);
+        WhisperSeats early = slowOnes();
+        go(early, takes - 201);
+        Check.due("knows(0, 3) in 201 hours", early.knows(0, 3), Check.NONE);
     }
 
     private static void out() {

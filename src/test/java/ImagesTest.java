@@ -46,6 +46,19 @@ public final class ImagesTest {
         Check.due("sheets stay", x.write(2, 0, 0), 5);
         Check.due("a third is new", x.person(Check.LOVER), 2);
         Check.due("and knows none", x.of(2, 1), 0);
+        x.set(2, 1, 3);
+        x.set(2, 2, 1);
+        x.set(2, 5, 8);
+        int heard = x.count(2);
+        int believed = x.count(3);
+        x.undo();
+        Check.due("count(2) without the third", x.count(2), heard - 8);
+        Check.due("count(3) without the third", x.count(3), believed - 1);
+        x.person(Check.PERSON);
+        int[] unknown = {0, 0, 0, -1, 0, 0};
+        for (int what = 0; what < unknown.length; what++) {
+            Check.due("another third is new, too: of(2, " + what + ")", x.of(2, what), unknown[what]);
+        }
     }
 
     private static void imageKeepsLatest() {
@@ -90,6 +103,13 @@ public final class ImagesTest {
         for (int what = 0; what < due.length; what++) {
             Check.due("count(" + what + ")", x.count(what), due[what]);
         }
+        Check.people(x, 0, 0, 0, 0, 0);
+        x.set(7, 1, 1);
+        x.set(7, 2, 1);
+        x.set(7, 5, 1);
+        Check.due("count(2) of eight", x.count(2), 29998);
+        Check.due("count(3) of eight", x.count(3), 7);
+        Check.due("confide(7, 60) of eight", x.confide(7, 60) >= 1 ? 1 : 0, 1);
         Check.due("count(-1)", x.count(-1), Check.BEYOND);
         Check.due("count(4)", x.count(4), Check.BEYOND);
     }

@@ -48,6 +48,9 @@ public final class PeopleTest {
             Check.due("says nothing known: " + i, x.of(i, 6), -1);
             x.set(i, 1, Check.set(2, 5, 8));
         }
+        x.set(1, 1, Check.set(0));
+        Check.due("an actor that knows 0 alone says", x.of(1, 6), 0);
+        x.set(1, 1, Check.set(2, 5, 8));
         int[] unbelieving = {2, 8, 2, -1, -1, 2};
         int[] believing = {5, 8, 5, -1, -1, 5};
         int[] withSham = {5, 8, 3, -1, -1, 5};
@@ -133,6 +136,8 @@ public final class PeopleTest {
         Check.due("set(0, 5, -1)", x.set(0, 5, -1), Check.BEYOND);
         Check.due("set(0, 5, 3)", x.set(0, 5, 3), 9999);
         Check.due("of(0, 5)", x.of(0, 5), 3);
+        Check.due("set(0, 5, 0)", x.set(0, 5, 0), 3);
+        Check.due("of(0, 5)", x.of(0, 5), 0);
         int[] others = {-1, 0, 3, 4, 6, 7};
         for (int what : others) {
             Check.due("set(0, " + what + ", 0)", x.set(0, what, 0), Check.BEYOND);

@@ -8,6 +8,7 @@ public final class SheetsTest {
         lays();
         book();
         read();
+        readOwnKind();
         readFindings();
         Check.end();
     }
@@ -160,6 +161,10 @@ public final class SheetsTest {
         x.sheet(0, 64, 40);
         Check.due("book(0, 1)", x.book(0, 1), 40);
         Check.due("nothing changes", x.now(0), 24);
+        x.sit(1, -1);
+        x.sheet(0, 16, 3);
+        x.book(0, 0);
+        dueRow(x, "book of the person, the actor coming in an hour", 0, 1, 1, 257);
         Check.due("book(1, 9)", x.book(1, 9), Check.MISSING);
         Check.due("book(4, 0)", x.book(4, 0), Check.BEYOND);
         Check.due("book(-1, 0)", x.book(-1, 0), Check.BEYOND);
@@ -197,6 +202,20 @@ public final class SheetsTest {
         x.set(0, 1, 255);
         x.write(1, 0, 255);
         Check.due("a number below 0 is no set", x.read(1, 0, 1), 0);
+    }
+
+    private static void readOwnKind() {
+        // Only a general tells a person the sham one in the first hour, and hears it in the second.
+        WhisperSeats x = Check.tuesday(Check.PERSON, Check.ACTOR);
+        x.sham(Check.set(0));
+        x.set(1, 1, Check.set(4));
+        x.sit(0, 0);
+        x.sit(1, 1);
+        x.sheet(0, 16, 3);
+        row(x, 0, 0, Check.set(4), Check.set(0, 4));
+        Check.due("a general and a person", x.read(0, 0, 1), 1);
+        row(x, 0, 0, 0, 0);
+        Check.due("a wife or a lover over there, and anybody here", x.read(0, 0, 1), 12);
     }
 
     private static void readFindings() {

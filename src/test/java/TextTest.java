@@ -8,6 +8,8 @@ public final class TextTest {
         parkFaults();
         parkFaultsOfSeats();
         parkFull();
+        parkOfWholeTape();
+        parkSeesNoOlderBytes();
         parkChangesNothingWithFault();
         parkDoesNotCountFaults();
         Check.end();
@@ -86,7 +88,7 @@ public final class TextTest {
             "wife on 2", "wife on 10", "wife on on", "wife on 0 1", "wife on 0 on 1", "wife on 0 knows 1",
             "wife wife", "wifes", "wif", "spyknows 1", "Person", "person knows -1", "person,spy", "7", ";", ";spy",
             "spy;;spy", "spy knows 1 2 knows 3", "knows 1", "on 1", "sham 1;\tspy", "sham 1 sham 2", "sham1true2",
-            "spy on 0;wife on 0", "spy on 0;wife on 1;actor on 1",
+            "wifez", "berson", "truf 1", "sham 010", "spy on 0;wife on 0", "spy on 0;wife on 1;actor on 1",
         };
         int[] places = {
             0, 3, 4, 5, 7, 9, 10, 6, 15,
@@ -95,7 +97,7 @@ public final class TextTest {
             8, 8, 8, 10, 10, 10,
             5, 0, 0, 0, 0, 13, 6, 0, 0, 0,
             4, 14, 0, 0, 7, 7, 5,
-            17, 28,
+            0, 0, 0, 5, 17, 28,
         };
         Check.due("as many places as texts", places.length, texts.length);
         for (int i = 0; i < texts.length; i++) {
@@ -129,6 +131,34 @@ public final class TextTest {
         Check.due("an 8th", Check.park(x, "sham 1; spy"), 2);
         Check.due("a 9th", Check.park(x, "spy"), -1);
         Check.due("sham with 8 there", Check.park(x, "true 1"), 1);
+    }
+
+    private static void parkOfWholeTape() {
+        String[] ends = {"sham 1", "spy", "sham 1 ", "spy knows", "spy;", "sham 1?"};
+        int[] due = {1, 1, 1, -121, -121, -120};
+        for (int i = 0; i < ends.length; i++) {
+            WhisperSeats x = new WhisperSeats();
+            Check.feed(x, " ".repeat(120 - ends[i].length()));
+            Check.due("120 bytes, '" + ends[i] + "' at the end", Check.park(x, ends[i]), due[i]);
+        }
+        WhisperSeats x = new WhisperSeats();
+        Check.due("as many items as can be", Check.park(x, "sham1;".repeat(20)), -121);
+        Check.due("as many items as can be", Check.park(x, "sham1;".repeat(19) + "sham 2"), 20);
+    }
+
+    private static void parkSeesNoOlderBytes() {
+        String[] older = {"sham 12", "sham 1a", "sham 1;", "sham 1 2"};
+        for (String text : older) {
+            WhisperSeats x = new WhisperSeats();
+            Check.feed(x, text);
+            x.wipe();
+            Check.due("'sham 1' where '" + text + "' was", Check.park(x, "sham 1"), 1);
+            Check.due("now(6)", x.now(6), 2);
+            Check.feed(x, "spys");
+            x.wipe();
+            Check.due("'spy' where 'spys' was", Check.park(x, "spy"), 1);
+            Check.due("'sham' where '    ' was", Check.park(x, "        ") + Check.park(x, "sham"), -9 - 5);
+        }
     }
 
     private static void parkChangesNothingWithFault() {
