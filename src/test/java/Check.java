@@ -15,6 +15,9 @@ final class Check {
     static final int LOVER = 4;
     static final int SPY = 5;
 
+    /** What stands ahead of an answer that isn't due, where it is told. */
+    static String context = "";
+
     private static int asked = 0;
     private static int wrong = 0;
 
@@ -25,8 +28,12 @@ final class Check {
         asked++;
         if (got != want) {
             wrong++;
-            System.out.println(call + " answered " + got + ", due is " + want);
+            System.out.println(context + call + " answered " + got + ", due is " + want);
         }
+    }
+
+    static int asked() {
+        return asked;
     }
 
     static void end() {

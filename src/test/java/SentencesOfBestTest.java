@@ -1,0 +1,339 @@
+import java.util.function.IntPredicate;
+import java.util.function.IntUnaryOperator;
+
+/** Promises 17 to 22, a test for each sentence; what is best is found out a second time by other calls. */
+public final class SentencesOfBestTest {
+    private static final int SEEDS = 40;
+    private static final int[] NO_WEIGHABLE_HOURS = {0, -1, 61, 100, Integer.MIN_VALUE, Integer.MAX_VALUE};
+    private static final int[] WEIGHABLE_HOURS = {1, 2, 59, 60};
+
+    public static void main(String[] args) {
+        kind();
+        forget();
+        confide();
+        enough();
+        doubt();
+        wisest();
+        Doc.end();
+    }
+
+    /** The least of those candidates whose worth is most; there must be one. */
+    private static int best(int candidates, IntPredicate isOne, IntUnaryOperator worth) {
+        int best = -1;
+        int most = -1;
+        for (int i = candidates - 1; i >= 0; i--) {
+            if (isOne.test(i)) {
+                int value = worth.applyAsInt(i);
+                best = value >= most ? i : best;
+                most = Math.max(value, most);
+            }
+        }
+        return best;
+    }
+
+    private static int[] nobodies(int size) {
+        return new int[] {-1, size, 8, Integer.MIN_VALUE, Integer.MAX_VALUE};
+    }
+
+    /** Wives alone, of whom nobody says or hears anything, so that all is as good as all else. */
+    private static WhisperSeats silent() {
+        WhisperSeats x = Check.tuesday(Check.WIFE, Check.WIFE, Check.WIFE);
+        x.set(1, 1, Check.set(3, 4, 9));
+        return x;
+    }
+
+    private static void kind() {
+        Doc.part("Promise 17");
+        Doc.says("The KIND as one of which one KNOWS most SECRETS ON n HOURS (1 to 100); of several the least.");
+        for (int seed = 0; seed < SEEDS; seed++) {
+            kindInDrawnPark(seed);
+        }
+        for (int kind = 0; kind < 6; kind++) {
+            WhisperSeats x = silent();
+            x.turn(1, kind);
+            Check.due("all alike, being of kind " + kind, x.kind(1, 100), 0);
+            Check.due("it stays of its kind", x.of(1, 0), kind);
+        }
+        Doc.says("BEYOND.");
+        WhisperSeats x = silent();
+        int[] wrong = {0, -1, 101, 200, Integer.MIN_VALUE, Integer.MAX_VALUE};
+        for (int n : wrong) {
+            Check.due("kind(0, " + n + ")", x.kind(0, n), Check.BEYOND);
+        }
+        for (int nobody : nobodies(3)) {
+            Check.due("kind(" + nobody + ", 1)", x.kind(nobody, 1), Check.BEYOND);
+        }
+    }
+
+    private static void kindInDrawnPark(int seed) {
+        int last = Parks.drawn(seed).count(0) - 1;
+        int[] hours = {1, 2, 99, 100};
+        for (int n : hours) {
+            int one = n % 2 == 0 ? last : last / 2;
+            Check.due("seed " + seed + ": kind(" + one + ", " + n + ")", Parks.drawn(seed).kind(one, n),
+                best(6, kind -> true, kind -> learntAs(seed, one, kind, n)));
+        }
+    }
+
+    private static int learntAs(int seed, int one, int kind, int n) {
+        WhisperSeats x = Parks.drawn(seed);
+        x.turn(one, kind);
+        x.hours(n);
+        return Integer.bitCount(x.of(one, 1));
+    }
+
+    private static void forget() {
+        Doc.part("Promise 18");
+        Doc.says("The SECRET that had best not be KNOWN to one now (one that it KNOWS; forgotten, as if it never had), "
+            + "so that HEARD of all together is most ON n HOURS (1 to 60); of several the least.");
+        for (int seed = 0; seed < SEEDS; seed++) {
+            forgetInDrawnPark(seed);
+        }
+        WhisperSeats x = silent();
+        Check.due("all alike", x.forget(1, 60), 3);
+        x.set(1, 1, Check.set(9));
+        Check.due("the only one", x.forget(1, 60), 9);
+        Doc.says("BEYOND.");
+        for (int n : NO_WEIGHABLE_HOURS) {
+            Check.due("forget(1, " + n + ")", x.forget(1, n), Check.BEYOND);
+            Check.due("knowing none, forget(0, " + n + ")", x.forget(0, n), Check.BEYOND);
+        }
+        for (int nobody : nobodies(3)) {
+            Check.due("forget(" + nobody + ", 1)", x.forget(nobody, 1), Check.BEYOND);
+        }
+        Doc.says("NONE: it KNOWS none.");
+        Check.due("forget(0, 1)", x.forget(0, 1), Check.NONE);
+        Check.due("forget(0, 60)", x.forget(0, 60), Check.NONE);
+        Check.due("forget(2, 60)", x.forget(2, 60), Check.NONE);
+    }
+
+    private static void forgetInDrawnPark(int seed) {
+        WhisperSeats x = Parks.drawn(seed);
+        for (int n : WEIGHABLE_HOURS) {
+            int one = n % x.count(0);
+            int known = x.of(one, 1);
+            int due = known == 0 ? Check.NONE
+                : best(10, secret -> (known >> secret & 1) == 1, secret -> heardWithout(seed, one, secret, n));
+            Check.due("seed " + seed + ": forget(" + one + ", " + n + ")", x.forget(one, n), due);
+        }
+    }
+
+    private static int heardWithout(int seed, int one, int secret, int n) {
+        WhisperSeats x = Parks.drawn(seed);
+        x.set(one, 1, x.of(one, 1) - (1 << secret));
+        return x.hours(n);
+    }
+
+    private static void confide() {
+        Doc.part("Promise 19");
+        Doc.says("The SECRET that one had best be told now (one that it doesn't KNOW; BELIEVED), "
+            + "so that it is KNOWN to most ON n HOURS (1 to 60); of several the least.");
+        for (int seed = 0; seed < SEEDS; seed++) {
+            confideInDrawnPark(seed);
+        }
+        confideBesideBeliefs();
+        WhisperSeats x = silent();
+        Check.due("all alike, three known to another one", x.confide(1, 60), 0);
+        Check.due("known to another one", x.confide(0, 60), 3);
+        x.set(1, 1, Check.set(0, 1, 2));
+        Check.due("all alike but known ones", x.confide(1, 60), 3);
+        x.set(1, 1, 511);
+        Check.due("the only one", x.confide(1, 60), 9);
+        Doc.says("BEYOND.");
+        x.set(0, 1, 1023);
+        for (int n : NO_WEIGHABLE_HOURS) {
+            Check.due("confide(1, " + n + ")", x.confide(1, n), Check.BEYOND);
+            Check.due("knowing all, confide(0, " + n + ")", x.confide(0, n), Check.BEYOND);
+        }
+        for (int nobody : nobodies(3)) {
+            Check.due("confide(" + nobody + ", 1)", x.confide(nobody, 1), Check.BEYOND);
+        }
+        Doc.says("NONE: it KNOWS all.");
+        Check.due("confide(0, 1)", x.confide(0, 1), Check.NONE);
+        Check.due("confide(0, 60)", x.confide(0, 60), Check.NONE);
+    }
+
+    /** A secret that comes to others which one believes already: the least of those is said first. */
+    private static void confideBesideBeliefs() {
+        WhisperSeats x = Check.tuesday(Check.PERSON, Check.WIFE);
+        x.set(0, 1, Check.set(2, 5));
+        x.set(0, 2, Check.set(2));
+        x.sit(0, 0);
+        x.sit(1, 1);
+        Check.due("0, which is said ahead of 2", x.confide(0, 1), 0);
+        x.set(0, 1, Check.set(0, 1, 2));
+        x.set(0, 2, Check.set(0, 2));
+        x.set(1, 1, Check.set(7));
+        Check.due("none is said ahead of 0, and 7 is known over there", x.confide(0, 1), 7);
+        x.set(1, 1, 0);
+        Check.due("none is said ahead of 0", x.confide(0, 1), 3);
+    }
+
+    private static void confideInDrawnPark(int seed) {
+        WhisperSeats x = Parks.drawn(seed);
+        for (int n : WEIGHABLE_HOURS) {
+            int one = n % x.count(0);
+            int known = x.of(one, 1);
+            int due = known == 1023 ? Check.NONE
+                : best(10, secret -> (known >> secret & 1) == 0, secret -> spreadFrom(seed, one, secret, n));
+            Check.due("seed " + seed + ": confide(" + one + ", " + n + ")", x.confide(one, n), due);
+        }
+    }
+
+    private static int spreadFrom(int seed, int one, int secret, int n) {
+        WhisperSeats x = Parks.drawn(seed);
+        x.set(one, 1, x.of(one, 1) | 1 << secret);
+        x.set(one, 2, x.of(one, 2) | 1 << secret);
+        x.hours(n);
+        return Integer.bitCount(x.who(secret, 0));
+    }
+
+    /** Two generals on the seats on a Tuesday, who talk for nine hours of ten. */
+    private static WhisperSeats generals() {
+        WhisperSeats x = Check.tuesday(Check.GENERAL, Check.GENERAL);
+        x.set(0, 1, Check.set(1));
+        x.set(1, 1, Check.set(2));
+        x.sit(0, 0);
+        x.sit(1, 1);
+        return x;
+    }
+
+    /** After how many hours from that Tuesday on each of the generals has heard so many. */
+    private static int hoursOfTalk(int wanted) {
+        int heard = 0;
+        int hours = 0;
+        while (heard < wanted) {
+            int hour = 24 + hours;
+            boolean talk = hours % 10 != 9 && hour % 24 < 22 && hour / 24 % 7 != 0;
+            heard += talk ? 1 : 0;
+            hours++;
+        }
+        return hours;
+    }
+
+    private static void enough() {
+        Doc.part("Promise 20");
+        Doc.says("How many HOURS (0 to 200) ON it takes till one has HEARD v (1 to 99) more.");
+        for (int one = 0; one < 2; one++) {
+            WhisperSeats x = generals();
+            x.set(one, 5, 1234);
+            Check.due("enough(" + one + ", 1)", x.enough(one, 1), 1);
+            Check.due("enough(" + one + ", 9)", x.enough(one, 9), 9);
+            Check.due("enough(" + one + ", 10)", x.enough(one, 10), 11);
+            for (int v = 1; v <= 99; v++) {
+                Check.due("enough(" + one + ", " + v + ")", x.enough(one, v), hoursOfTalk(v));
+            }
+        }
+        enoughInJust(200, 200);
+        enoughInJust(199, 199);
+        WhisperSeats x = generals();
+        x.set(0, 5, 9998);
+        Check.due("up to 9999", x.enough(0, 1), 1);
+        Doc.says("BEYOND.");
+        int[] wrong = {0, -1, 100, Integer.MIN_VALUE, Integer.MAX_VALUE};
+        for (int v : wrong) {
+            Check.due("enough(0, " + v + ")", x.enough(0, v), Check.BEYOND);
+        }
+        for (int nobody : nobodies(2)) {
+            Check.due("enough(" + nobody + ", 1)", x.enough(nobody, 1), Check.BEYOND);
+        }
+        Doc.says("NONE.");
+        Check.due("HEARD is held to 9999", x.enough(0, 2), Check.NONE);
+        x.set(0, 5, 9999);
+        Check.due("HEARD is 9999", x.enough(0, 1), Check.NONE);
+        Check.due("nothing is said", silent().enough(0, 1), Check.NONE);
+        enoughInJust(201, Check.NONE);
+    }
+
+    /** A wife, who hears a lover now and then, so many hours behind a Tuesday's first. */
+    private static WhisperSeats listener(int hours) {
+        WhisperSeats x = Check.tuesday(Check.WIFE, Check.LOVER);
+        x.set(1, 1, Check.set(5));
+        x.sit(0, 0);
+        x.sit(1, 1);
+        Parks.go(x, hours);
+        return x;
+    }
+
+    /** What the wife will have heard just so many hours ON, where she hears it in the last of them. */
+    private static void enoughInJust(int hours, int due) {
+        int found = 0;
+        for (int from = 0; from < 100; from++) {
+            int v = listener(from + hours).of(0, 5) - listener(from).of(0, 5);
+            boolean inTheLast = listener(from + hours).of(0, 5) > listener(from + hours - 1).of(0, 5);
+            if (inTheLast && v >= 1 && v <= 99) {
+                found++;
+                Check.due("from hour " + from + ": enough(0, " + v + ")", listener(from).enough(0, v), due);
+            }
+        }
+        Check.due("there are such hours", found > 0 ? 1 : 0, 1);
+    }
+
+    private static void doubt() {
+        Doc.part("Promise 21");
+        Doc.says("The SECRET that, SHAM or not otherwise than it is, makes most BELIEVE in SECRETS "
+            + "(counted by PEOPLE, each) ON n HOURS (1 to 60); of several the least.");
+        for (int seed = 0; seed < SEEDS; seed++) {
+            doubtInDrawnPark(seed);
+        }
+        Check.due("all alike", silent().doubt(60), 0);
+        Check.due("nobody", new WhisperSeats().doubt(1), 0);
+        Check.due("nobody, all sham", allSham().doubt(60), 0);
+        Doc.says("BEYOND.");
+        for (int n : NO_WEIGHABLE_HOURS) {
+            Check.due("doubt(" + n + ")", silent().doubt(n), Check.BEYOND);
+            Check.due("nobody, doubt(" + n + ")", new WhisperSeats().doubt(n), Check.BEYOND);
+        }
+    }
+
+    private static WhisperSeats allSham() {
+        WhisperSeats x = new WhisperSeats();
+        x.sham(1023);
+        return x;
+    }
+
+    private static void doubtInDrawnPark(int seed) {
+        for (int n : WEIGHABLE_HOURS) {
+            Check.due("seed " + seed + ": doubt(" + n + ")", Parks.drawn(seed).doubt(n),
+                best(10, secret -> true, secret -> believedOtherwise(seed, secret, n)));
+        }
+    }
+
+    private static int believedOtherwise(int seed, int secret, int n) {
+        WhisperSeats x = Parks.drawn(seed);
+        x.sham(x.now(6) ^ 1 << secret);
+        x.hours(n);
+        return x.count(3);
+    }
+
+    private static void wisest() {
+        Doc.part("Promise 22");
+        Doc.says("Who KNOWS most SECRETS ON n HOURS (0 to 200); of several the least.");
+        int[] hours = {0, 1, 2, 100, 199, 200};
+        for (int seed = 0; seed < SEEDS; seed++) {
+            for (int n : hours) {
+                WhisperSeats then = Parks.later(seed, n);
+                Check.due("seed " + seed + ": wisest(" + n + ")", Parks.drawn(seed).wisest(n),
+                    best(then.count(0), one -> true, one -> Integer.bitCount(then.of(one, 1))));
+            }
+        }
+        WhisperSeats x = new WhisperSeats();
+        Check.people(x, 3, 3, 3, 3, 3, 3, 3, 3);
+        Check.due("eight that know none", x.wisest(200), 0);
+        x.set(7, 1, 512);
+        Check.due("the last knows one", x.wisest(200), 7);
+        x.set(5, 1, 1);
+        Check.due("of two the least", x.wisest(0), 5);
+        x.set(7, 1, 1023);
+        Check.due("the last knows all", x.wisest(0), 7);
+        Doc.says("BEYOND.");
+        int[] wrong = {-1, 201, Integer.MIN_VALUE, Integer.MAX_VALUE};
+        for (int n : wrong) {
+            Check.due("wisest(" + n + ")", x.wisest(n), Check.BEYOND);
+            Check.due("nobody, wisest(" + n + ")", new WhisperSeats().wisest(n), Check.BEYOND);
+        }
+        Doc.says("NONE: nobody is there.");
+        Check.due("wisest(0)", new WhisperSeats().wisest(0), Check.NONE);
+        Check.due("wisest(200)", new WhisperSeats().wisest(200), Check.NONE);
+    }
+}
