@@ -42,6 +42,15 @@ public final class SentencesOfBestTest {
         return x;
     }
 
+    /** A park that was asked for the best of ten, each of which was worth far more than secrets known are. */
+    private static WhisperSeats askedBefore() {
+        WhisperSeats x = silent();
+        x.set(0, 1, 1023);
+        x.set(0, 5, 9999);
+        Check.due("forget(0, 1)", x.forget(0, 1), 0);
+        return x;
+    }
+
     private static void kind() {
         Doc.part("Promise 17");
         Doc.says("The KIND as one of which one KNOWS most SECRETS ON n HOURS (1 to 100); of several the least.");
@@ -54,6 +63,7 @@ public final class SentencesOfBestTest {
             Check.due("all alike, being of kind " + kind, x.kind(1, 100), 0);
             Check.due("it stays of its kind", x.of(1, 0), kind);
         }
+        Check.due("whatever was asked before", askedBefore().kind(0, 1), 0);
         Doc.says("BEYOND.");
         WhisperSeats x = silent();
         int[] wrong = {0, -1, 101, 200, Integer.MIN_VALUE, Integer.MAX_VALUE};
@@ -326,6 +336,7 @@ public final class SentencesOfBestTest {
         Check.due("of two the least", x.wisest(0), 5);
         x.set(7, 1, 1023);
         Check.due("the last knows all", x.wisest(0), 7);
+        Check.due("whatever was asked before", askedBefore().wisest(0), 0);
         Doc.says("BEYOND.");
         int[] wrong = {-1, 201, Integer.MIN_VALUE, Integer.MAX_VALUE};
         for (int n : wrong) {

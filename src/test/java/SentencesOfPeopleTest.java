@@ -106,6 +106,7 @@ public final class SentencesOfPeopleTest {
             Check.due("KIND", x.of(i, 0), i % 6);
             Check.due("SEAT", x.of(i, 3), -1);
         }
+        newWhereAnotherOneWas();
         Doc.says("BEYOND: kind.");
         WhisperSeats y = new WhisperSeats();
         for (int kind : NO_KINDS) {
@@ -118,6 +119,21 @@ public final class SentencesOfPeopleTest {
             Check.due("of eight, person(" + kind + ")", x.person(kind), Check.FULL);
         }
         Check.due("nobody came", x.count(0), 8);
+    }
+
+    /** Nothing of one that undo() took away is left to the next one of that number. */
+    private static void newWhereAnotherOneWas() {
+        WhisperSeats x = new WhisperSeats();
+        x.image();
+        x.person(Check.LOVER);
+        x.set(0, 1, 1023);
+        x.set(0, 2, 1023);
+        x.set(0, 5, 9999);
+        x.sit(0, 1);
+        x.hours(2);
+        x.undo();
+        Check.due("the number is free again", x.person(Check.PERSON), 0);
+        dueOf("all is new", x, 0, 0, 0, 0, -1, 0, 0, -1, 3);
     }
 
     private static void of() {

@@ -502,6 +502,14 @@ public final class SentencesOfTermsTest {
         Check.due("a wife, four known ahead of it", x.of(0, 2), 0);
         x.hours(1);
         Check.due("a wife, five known ahead of it", x.of(0, 2), Check.set(9));
+        x = pair(Check.GENERAL, 0, Check.PERSON, Check.set(1, 2, 3));
+        x.sham(Check.set(9));
+        x.hours(1);
+        Check.due("a person on seat 1, three known ahead of it", x.of(1, 2), 0);
+        x = pair(Check.GENERAL, Check.set(1, 2, 3), Check.ACTOR, Check.set(1, 2, 3));
+        x.sham(Check.set(9));
+        x.hours(1);
+        Check.due("an actor on seat 1 trusts all", x.of(1, 2), Check.set(9));
     }
 
     private static void mondays() {
@@ -685,7 +693,9 @@ public final class SentencesOfTermsTest {
 
     private static void tokens() {
         faultAt("spyknows 1", 0);
-        faultAt("spys", 0);
+        faultAt("spya", 0);
+        faultAt("spyz", 0);
+        faultAt("aspy", 0);
         faultAt("shamsham 1", 0);
         faultAt("sham 12", 5);
         faultAt("spy knows 12", 10);
@@ -717,7 +727,8 @@ public final class SentencesOfTermsTest {
             }
         }
         Check.due("nobody came by an hour", x.now(7), -1);
-        Check.due("two more come to those", Check.park(x, "person;person"), 2);
+        Check.due("two more come to those", Check.park(x, "person;person knows 7 7 0 0"), 2);
+        Check.due("told twice, known once", x.of(7, 1), Check.set(0, 7));
         Check.due("count(0)", x.count(0), 8);
         faultAt("spy knows", 9);
         faultAt("spy knows on 0", 10);
@@ -766,7 +777,7 @@ public final class SentencesOfTermsTest {
     }
 
     private static void faultsOfWordsAndBytes() {
-        String[] words = {"persons", "perso", "nobody", "knows", "on", "a", "z", "shams", "truth"};
+        String[] words = {"persons", "perso", "berson", "persom", "nobody", "knows", "on", "a", "z", "shams", "truth"};
         for (String word : words) {
             faultAt(word, 0);
             faultAt("  " + word, 2);
