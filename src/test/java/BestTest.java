@@ -14,16 +14,6 @@ public final class BestTest {
         Check.end();
     }
 
-    /** People of two kinds, the first on seat 0, the second on seat 1, on a Tuesday. */
-    private static WhisperSeats pair(int first, int firstKnows, int second, int secondKnows) {
-        WhisperSeats x = Check.tuesday(first, second);
-        x.set(0, 1, firstKnows);
-        x.set(1, 1, secondKnows);
-        x.sit(0, 0);
-        x.sit(1, 1);
-        return x;
-    }
-
     private static void nothingChanged(WhisperSeats x, int known) {
         Check.due("nothing changed: HOUR", x.now(0), 24);
         Check.due("nothing changed: HEARD", x.count(2), 0);
@@ -33,7 +23,7 @@ public final class BestTest {
 
     private static void kind() {
         // Only as a general does one tell the other the sham secret, and hear it again.
-        WhisperSeats x = pair(Check.PERSON, 0, Check.PERSON, Check.set(4));
+        WhisperSeats x = Check.pair(Check.PERSON, 0, Check.PERSON, Check.set(4));
         x.sham(Check.set(0));
         Check.due("kind(0, 1), all alike", x.kind(0, 1), Check.PERSON);
         Check.due("kind(0, 2)", x.kind(0, 2), Check.GENERAL);
@@ -50,7 +40,7 @@ public final class BestTest {
 
     private static void forget() {
         // The lover stays a fifth hour if it is told a fourth secret; that is 2, told once 9 is forgotten.
-        WhisperSeats x = pair(Check.GENERAL, Check.set(2, 9), Check.LOVER, Check.set(0, 1, 9));
+        WhisperSeats x = Check.pair(Check.GENERAL, Check.set(2, 9), Check.LOVER, Check.set(0, 1, 9));
         x.set(0, 2, Check.set(9));
         Check.due("forget(0, 4), all alike", x.forget(0, 4), 2);
         Check.due("forget(0, 5)", x.forget(0, 5), 9);
@@ -70,13 +60,13 @@ public final class BestTest {
 
     private static void forgetBeliefToo() {
         // What is believed is said ahead of what is known, but not when it is forgotten.
-        WhisperSeats x = pair(Check.GENERAL, Check.set(2, 3, 9), Check.LOVER, Check.set(0, 1, 9));
+        WhisperSeats x = Check.pair(Check.GENERAL, Check.set(2, 3, 9), Check.LOVER, Check.set(0, 1, 9));
         x.set(0, 2, Check.set(9));
         Check.due("forget(0, 5), one believed of three", x.forget(0, 5), 9);
     }
 
     private static void confide() {
-        WhisperSeats x = pair(Check.ACTOR, Check.set(5), Check.PERSON, 0);
+        WhisperSeats x = Check.pair(Check.ACTOR, Check.set(5), Check.PERSON, 0);
         Check.due("confide(0, 1) to an actor", x.confide(0, 1), 6);
         nothingChanged(x, Check.set(5));
         x.set(1, 1, Check.set(3));
@@ -93,17 +83,17 @@ public final class BestTest {
     }
 
     private static void confideIsBelieved() {
-        WhisperSeats x = pair(Check.PERSON, Check.set(0), Check.WIFE, Check.set(5));
+        WhisperSeats x = Check.pair(Check.PERSON, Check.set(0), Check.WIFE, Check.set(5));
         Check.due("confide(0, 1) to a person", x.confide(0, 1), 1);
         x.set(0, 1, Check.set(5));
         x.set(1, 1, 0);
         Check.due("confide(0, 1) to a person that knows 5", x.confide(0, 1), 0);
-        WhisperSeats y = pair(Check.WIFE, Check.set(7), Check.WIFE, Check.set(6));
+        WhisperSeats y = Check.pair(Check.WIFE, Check.set(7), Check.WIFE, Check.set(6));
         Check.due("confide(1, 1), 7 being known to another one", y.confide(1, 1), 7);
     }
 
     private static void enough() {
-        WhisperSeats x = pair(Check.PERSON, Check.set(1), Check.ACTOR, Check.set(5));
+        WhisperSeats x = Check.pair(Check.PERSON, Check.set(1), Check.ACTOR, Check.set(5));
         x.set(0, 5, 40);
         Check.due("enough(0, 1)", x.enough(0, 1), 1);
         Check.due("enough(0, 3)", x.enough(0, 3), 3);
@@ -113,13 +103,13 @@ public final class BestTest {
         Check.due("enough(2, 1)", x.enough(2, 1), Check.BEYOND);
         Check.due("enough(-1, 1)", x.enough(-1, 1), Check.BEYOND);
         Check.due("nothing changes", x.now(0), 24);
-        WhisperSeats y = pair(Check.WIFE, Check.set(1), Check.WIFE, Check.set(5));
+        WhisperSeats y = Check.pair(Check.WIFE, Check.set(1), Check.WIFE, Check.set(5));
         Check.due("enough(0, 1) among wives", y.enough(0, 1), Check.NONE);
         Check.due("enough(0, 99) among wives", y.enough(0, 99), Check.NONE);
     }
 
     private static void enoughWhereHeardIsHeld() {
-        WhisperSeats x = pair(Check.PERSON, Check.set(1), Check.ACTOR, Check.set(5));
+        WhisperSeats x = Check.pair(Check.PERSON, Check.set(1), Check.ACTOR, Check.set(5));
         x.set(0, 5, 9998);
         Check.due("enough(0, 1)", x.enough(0, 1), 1);
         Check.due("enough(0, 2), HEARD being held", x.enough(0, 2), Check.NONE);
@@ -127,7 +117,7 @@ public final class BestTest {
 
     private static void doubt() {
         // A sham one that is said over there isn't believed any more by one that knows three.
-        WhisperSeats x = pair(Check.PERSON, Check.set(0, 1, 2), Check.GENERAL, 0);
+        WhisperSeats x = Check.pair(Check.PERSON, Check.set(0, 1, 2), Check.GENERAL, 0);
         x.set(0, 2, Check.set(0, 1, 2));
         Check.due("doubt(1)", x.doubt(1), 3);
         Check.due("nothing changes", x.now(6), 0);
@@ -139,10 +129,10 @@ public final class BestTest {
     }
 
     private static void doubtOfShamOne() {
-        WhisperSeats x = pair(Check.ACTOR, Check.set(5), Check.SPY, 0);
+        WhisperSeats x = Check.pair(Check.ACTOR, Check.set(5), Check.SPY, 0);
         x.sham(Check.set(5));
         Check.due("doubt(1), a sham one made true", x.doubt(1), 5);
-        WhisperSeats y = pair(Check.ACTOR, Check.set(0), Check.SPY, Check.set(1));
+        WhisperSeats y = Check.pair(Check.ACTOR, Check.set(0), Check.SPY, Check.set(1));
         y.set(1, 2, Check.set(1));
         y.sham(Check.set(0));
         Check.due("doubt(1), 0 made true", y.doubt(1), 0);

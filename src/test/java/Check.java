@@ -51,6 +51,16 @@ final class Check {
         return x;
     }
 
+    /** One on each seat, 0 first, at hour 0 of a Tuesday. */
+    static WhisperSeats pair(int first, int firstKnows, int second, int secondKnows) {
+        WhisperSeats x = tuesday(first, second);
+        x.set(0, 1, firstKnows);
+        x.set(1, 1, secondKnows);
+        x.sit(0, 0);
+        x.sit(1, 1);
+        return x;
+    }
+
     static void people(WhisperSeats x, int... kinds) {
         for (int kind : kinds) {
             x.person(kind);

@@ -241,12 +241,7 @@ public final class HoursTest {
 
     /** A person and an actor that talk for three hours on a Tuesday; see twoTalk(). */
     private static WhisperSeats talkers() {
-        WhisperSeats x = Check.tuesday(Check.PERSON, Check.ACTOR);
-        x.set(0, 1, Check.set(1));
-        x.set(1, 1, Check.set(4, 5));
-        x.sit(0, 0);
-        x.sit(1, 1);
-        return x;
+        return Check.pair(Check.PERSON, Check.set(1), Check.ACTOR, Check.set(4, 5));
     }
 
     private static void on() {

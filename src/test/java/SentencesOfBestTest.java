@@ -200,12 +200,7 @@ public final class SentencesOfBestTest {
 
     /** Two generals on the seats on a Tuesday, who talk for nine hours of ten. */
     private static WhisperSeats generals() {
-        WhisperSeats x = Check.tuesday(Check.GENERAL, Check.GENERAL);
-        x.set(0, 1, Check.set(1));
-        x.set(1, 1, Check.set(2));
-        x.sit(0, 0);
-        x.sit(1, 1);
-        return x;
+        return Check.pair(Check.GENERAL, Check.set(1), Check.GENERAL, Check.set(2));
     }
 
     /** After how many hours from that Tuesday on each of the generals has heard so many. */
@@ -257,10 +252,7 @@ public final class SentencesOfBestTest {
 
     /** A wife, who hears a lover now and then, so many hours behind a Tuesday's first. */
     private static WhisperSeats listener(int hours) {
-        WhisperSeats x = Check.tuesday(Check.WIFE, Check.LOVER);
-        x.set(1, 1, Check.set(5));
-        x.sit(0, 0);
-        x.sit(1, 1);
+        WhisperSeats x = Check.pair(Check.WIFE, 0, Check.LOVER, Check.set(5));
         Parks.go(x, hours);
         return x;
     }

@@ -15,12 +15,7 @@ public final class SentencesOfHoursTest {
 
     /** A person that knows 1 on seat 0 and an actor that knows 4 and 5 on seat 1, on a Tuesday. */
     private static WhisperSeats talkers() {
-        WhisperSeats x = Check.tuesday(Check.PERSON, Check.ACTOR);
-        x.set(0, 1, Check.set(1));
-        x.set(1, 1, Check.set(4, 5));
-        x.sit(0, 0);
-        x.sit(1, 1);
-        return x;
+        return Check.pair(Check.PERSON, Check.set(1), Check.ACTOR, Check.set(4, 5));
     }
 
     private static void hours() {

@@ -285,12 +285,7 @@ public final class SentencesOfSheetsTest {
 
     /** A person that knows 0 on seat 0 and an actor that knows 8 on seat 1, on a Tuesday. */
     private static WhisperSeats talkers() {
-        WhisperSeats x = Check.tuesday(Check.PERSON, Check.ACTOR);
-        x.set(0, 1, Check.set(0));
-        x.set(1, 1, Check.set(8));
-        x.sit(0, 0);
-        x.sit(1, 1);
-        return x;
+        return Check.pair(Check.PERSON, Check.set(0), Check.ACTOR, Check.set(8));
     }
 
     private static void book() {

@@ -275,23 +275,13 @@ public final class SentencesOfTermsTest {
     }
 
     private static void heardIsHeld() {
-        WhisperSeats x = pair(Check.ACTOR, Check.set(1), Check.ACTOR, Check.set(2));
+        WhisperSeats x = Check.pair(Check.ACTOR, Check.set(1), Check.ACTOR, Check.set(2));
         x.set(0, 5, 9998);
         x.hours(1);
         Check.due("one more", x.of(0, 5), 9999);
         x.hours(1);
         Check.due("held", x.of(0, 5), 9999);
         Check.due("all together", x.count(2), 9999 + 2);
-    }
-
-    /** One on each seat, at hour 0 of a Tuesday. */
-    private static WhisperSeats pair(int first, int firstKnows, int second, int secondKnows) {
-        WhisperSeats x = Check.tuesday(first, second);
-        x.set(0, 1, firstKnows);
-        x.set(1, 1, secondKnows);
-        x.sit(0, 0);
-        x.sit(1, 1);
-        return x;
     }
 
     /** What one of a kind says at an hour of a Tuesday. */
@@ -427,13 +417,13 @@ public final class SentencesOfTermsTest {
 
     private static void hourGoes() {
         Doc.says("An HOUR goes: what each ON a SEAT SAYS is found out first.");
-        WhisperSeats x = pair(Check.PERSON, Check.set(5), Check.PERSON, 0);
+        WhisperSeats x = Check.pair(Check.PERSON, Check.set(5), Check.PERSON, 0);
         Check.due("one that is told something this hour said nothing yet", x.hours(1), 1);
         Check.due("heard by seat 0", x.of(0, 5), 0);
-        x = pair(Check.PERSON, 0, Check.PERSON, Check.set(5));
+        x = Check.pair(Check.PERSON, 0, Check.PERSON, Check.set(5));
         Check.due("the other way", x.hours(1), 1);
         Check.due("heard by seat 1", x.of(1, 5), 0);
-        x = pair(Check.PERSON, Check.set(7), Check.PERSON, Check.set(3));
+        x = Check.pair(Check.PERSON, Check.set(7), Check.PERSON, Check.set(3));
         x.hours(1);
         Check.due("seat 0 says 7, and not the 3 that it hears", x.of(1, 1), Check.set(3, 7));
         Doc.says("Then, if somebody is ON each SEAT: what one SAYS comes to the other one (but on MONDAYS each hears what "
@@ -473,12 +463,12 @@ public final class SentencesOfTermsTest {
     }
 
     private static void heardAndTrusted() {
-        WhisperSeats x = pair(Check.ACTOR, Check.set(4), Check.PERSON, Check.set(1, 4));
+        WhisperSeats x = Check.pair(Check.ACTOR, Check.set(4), Check.PERSON, Check.set(1, 4));
         x.set(1, 2, Check.set(4));
         Check.due("both hear", x.hours(1), 2);
         Check.due("what is known and believed already stays so", x.of(1, 1) + 1024 * x.of(1, 2), 18 + 1024 * 16);
         Check.due("and is counted as heard", x.of(1, 5), 1);
-        x = pair(Check.WIFE, Check.set(4), Check.PERSON, Check.set(1));
+        x = Check.pair(Check.WIFE, Check.set(4), Check.PERSON, Check.set(1));
         Check.due("nothing said, nothing heard", x.hours(1), 1);
         Check.due("by the person", x.of(1, 5), 0);
         Check.due("known to the wife", x.of(0, 1), Check.set(1, 4));
@@ -487,7 +477,7 @@ public final class SentencesOfTermsTest {
 
     private static void heardAndDoubted() {
         // The general says 9, which is sham; a person trusts that while it knows fewer than three.
-        WhisperSeats x = pair(Check.PERSON, Check.set(1, 2), Check.GENERAL, 0);
+        WhisperSeats x = Check.pair(Check.PERSON, Check.set(1, 2), Check.GENERAL, 0);
         x.sham(Check.set(9));
         x.set(0, 2, Check.set(1));
         x.hours(1);
@@ -496,17 +486,17 @@ public final class SentencesOfTermsTest {
         Check.due("three known ahead of it: not any more", x.of(0, 2), Check.set(1));
         Check.due("known all the same", x.of(0, 1), Check.set(1, 2, 9));
         Check.due("heard all the same", x.of(0, 5), 2);
-        x = pair(Check.WIFE, Check.set(1, 2, 3, 4), Check.GENERAL, 0);
+        x = Check.pair(Check.WIFE, Check.set(1, 2, 3, 4), Check.GENERAL, 0);
         x.sham(Check.set(9));
         x.hours(1);
         Check.due("a wife, four known ahead of it", x.of(0, 2), 0);
         x.hours(1);
         Check.due("a wife, five known ahead of it", x.of(0, 2), Check.set(9));
-        x = pair(Check.GENERAL, 0, Check.PERSON, Check.set(1, 2, 3));
+        x = Check.pair(Check.GENERAL, 0, Check.PERSON, Check.set(1, 2, 3));
         x.sham(Check.set(9));
         x.hours(1);
         Check.due("a person on seat 1, three known ahead of it", x.of(1, 2), 0);
-        x = pair(Check.GENERAL, Check.set(1, 2, 3), Check.ACTOR, Check.set(1, 2, 3));
+        x = Check.pair(Check.GENERAL, Check.set(1, 2, 3), Check.ACTOR, Check.set(1, 2, 3));
         x.sham(Check.set(9));
         x.hours(1);
         Check.due("an actor on seat 1 trusts all", x.of(1, 2), Check.set(9));
@@ -550,7 +540,7 @@ public final class SentencesOfTermsTest {
     }
 
     private static void sits() {
-        WhisperSeats x = pair(Check.WIFE, 0, Check.ACTOR, 0);
+        WhisperSeats x = Check.pair(Check.WIFE, 0, Check.ACTOR, 0);
         x.hours(3);
         Check.due("both have sat", x.of(0, 4) * 10 + x.of(1, 4), 33);
         x.hours(1);

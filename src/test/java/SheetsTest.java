@@ -142,12 +142,7 @@ public final class SheetsTest {
 
     /** A person on seat 0 and an actor on seat 1 that talk for three hours on a Tuesday. */
     private static WhisperSeats talkers() {
-        WhisperSeats x = Check.tuesday(Check.PERSON, Check.ACTOR);
-        x.set(0, 1, Check.set(0));
-        x.set(1, 1, Check.set(8));
-        x.sit(0, 0);
-        x.sit(1, 1);
-        return x;
+        return Check.pair(Check.PERSON, Check.set(0), Check.ACTOR, Check.set(8));
     }
 
     private static void book() {
