@@ -28,6 +28,15 @@ final class Parks {
         return random.nextInt(1024) & random.nextInt(1024);
     }
 
+    /** A drawn park in which hours have gone since, so that some have sat a while and came in turn; and then n more. */
+    static WhisperSeats lived(int seed, int n) {
+        return later(seed, 1 + 7 * seed % 40 + n);
+    }
+
+    static WhisperSeats lived(int seed) {
+        return lived(seed, 0);
+    }
+
     /** A drawn park, so many hours later. */
     static WhisperSeats later(int seed, int hours) {
         WhisperSeats x = drawn(seed);

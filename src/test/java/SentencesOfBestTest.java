@@ -3,7 +3,7 @@ import java.util.function.IntUnaryOperator;
 
 /** Promises 17 to 22, a test for each sentence; what is best is found out a second time by other calls. */
 public final class SentencesOfBestTest {
-    private static final int SEEDS = 40;
+    private static final int SEEDS = 100;
     private static final int[] NO_WEIGHABLE_HOURS = {0, -1, 61, 100, Integer.MIN_VALUE, Integer.MAX_VALUE};
     private static final int[] WEIGHABLE_HOURS = {1, 2, 59, 60};
 
@@ -64,6 +64,8 @@ public final class SentencesOfBestTest {
             Check.due("it stays of its kind", x.of(1, 0), kind);
         }
         Check.due("whatever was asked before", askedBefore().kind(0, 1), 0);
+        kindOfOneThatWaits();
+        kindOfOneThatMakesDoubt();
         Doc.says("BEYOND.");
         WhisperSeats x = silent();
         int[] wrong = {0, -1, 101, 200, Integer.MIN_VALUE, Integer.MAX_VALUE};
@@ -75,18 +77,50 @@ public final class SentencesOfBestTest {
         }
     }
 
+    /** At hour 3 one sits down, to whom a spy says something at hour 6: a person has gone by then, and no other kind. */
+    private static void kindOfOneThatWaits() {
+        WhisperSeats x = Check.tuesday();
+        x.hours(3);
+        Check.people(x, Check.PERSON, Check.SPY);
+        x.set(1, 1, Check.set(5));
+        x.sit(0, 0);
+        x.sit(1, 1);
+        Check.due("at hour 6, which has not gone yet", x.kind(0, 3), 0);
+        Check.due("at hour 7", x.kind(0, 4), 1);
+        x.hours(1);
+        x.sit(1, 1);
+        Check.due("an hour that it has sat counts, at hour 7", x.kind(0, 3), 1);
+        x.turn(0, Check.GENERAL);
+        Check.due("whatever its kind is now", x.kind(0, 3), 1);
+    }
+
+    /** A spy alone tells 3 back to one that knows many, just once, at hour 18: that doubts it then, and says 7 instead. */
+    private static void kindOfOneThatMakesDoubt() {
+        WhisperSeats x = new WhisperSeats();
+        Parks.go(x, 137);
+        x.sham(Check.set(1, 3, 8));
+        Check.people(x, Check.ACTOR, Check.PERSON);
+        x.set(0, 1, Check.set(5, 8));
+        x.set(1, 1, Check.set(2, 3, 7, 9));
+        x.set(1, 2, Check.set(3, 7, 9));
+        x.sit(0, 0);
+        x.sit(1, 1);
+        Check.due("in two hours all is alike", x.kind(0, 2), 0);
+        Check.due("in three a spy knows one more", x.kind(0, 3), 5);
+    }
+
     private static void kindInDrawnPark(int seed) {
-        int last = Parks.drawn(seed).count(0) - 1;
+        int last = Parks.lived(seed).count(0) - 1;
         int[] hours = {1, 2, 99, 100};
         for (int n : hours) {
             int one = n % 2 == 0 ? last : last / 2;
-            Check.due("seed " + seed + ": kind(" + one + ", " + n + ")", Parks.drawn(seed).kind(one, n),
+            Check.due("seed " + seed + ": kind(" + one + ", " + n + ")", Parks.lived(seed).kind(one, n),
                 best(6, kind -> true, kind -> learntAs(seed, one, kind, n)));
         }
     }
 
     private static int learntAs(int seed, int one, int kind, int n) {
-        WhisperSeats x = Parks.drawn(seed);
+        WhisperSeats x = Parks.lived(seed);
         x.turn(one, kind);
         x.hours(n);
         return Integer.bitCount(x.of(one, 1));
@@ -103,6 +137,7 @@ public final class SentencesOfBestTest {
         Check.due("all alike", x.forget(1, 60), 3);
         x.set(1, 1, Check.set(9));
         Check.due("the only one", x.forget(1, 60), 9);
+        forgetBesideALover();
         Doc.says("BEYOND.");
         for (int n : NO_WEIGHABLE_HOURS) {
             Check.due("forget(1, " + n + ")", x.forget(1, n), Check.BEYOND);
@@ -117,8 +152,28 @@ public final class SentencesOfBestTest {
         Check.due("forget(2, 60)", x.forget(2, 60), Check.NONE);
     }
 
+    /** A lover that is told of 3, its fourth one, stays and hears an hour longer; of 7 it knows already. */
+    private static void forgetBesideALover() {
+        WhisperSeats x = Check.pair(Check.GENERAL, Check.set(3, 7), Check.LOVER, Check.set(0, 1, 7));
+        Check.due("in four hours all is alike", x.forget(0, 4), 3);
+        Check.due("in five the lover is still there, told of 3", x.forget(0, 5), 7);
+        Check.due("in six it has come again, told of 7", x.forget(0, 6), 3);
+        x.set(0, 2, Check.set(3, 7));
+        Check.due("as if it had never believed it either", x.forget(0, 5), 7);
+        x.hours(1);
+        x.set(1, 1, Check.set(0, 1, 7));
+        Check.due("an hour that both have sat counts", x.forget(0, 4), 7);
+        Check.due("and no other", x.forget(0, 3), 3);
+        x.set(1, 5, 9999);
+        Check.due("HEARD that is held to 9999 is no more for it", x.forget(0, 4), 3);
+        x.set(1, 5, 9995);
+        Check.due("HEARD that comes to 9999 is", x.forget(0, 4), 7);
+        x.set(1, 5, 9996);
+        Check.due("HEARD that would be held in the last hour isn't", x.forget(0, 4), 3);
+    }
+
     private static void forgetInDrawnPark(int seed) {
-        WhisperSeats x = Parks.drawn(seed);
+        WhisperSeats x = Parks.lived(seed);
         for (int n : WEIGHABLE_HOURS) {
             int one = n % x.count(0);
             int known = x.of(one, 1);
@@ -129,7 +184,7 @@ public final class SentencesOfBestTest {
     }
 
     private static int heardWithout(int seed, int one, int secret, int n) {
-        WhisperSeats x = Parks.drawn(seed);
+        WhisperSeats x = Parks.lived(seed);
         x.set(one, 1, x.of(one, 1) - (1 << secret));
         return x.hours(n);
     }
@@ -180,7 +235,7 @@ public final class SentencesOfBestTest {
     }
 
     private static void confideInDrawnPark(int seed) {
-        WhisperSeats x = Parks.drawn(seed);
+        WhisperSeats x = Parks.lived(seed);
         for (int n : WEIGHABLE_HOURS) {
             int one = n % x.count(0);
             int known = x.of(one, 1);
@@ -191,7 +246,7 @@ public final class SentencesOfBestTest {
     }
 
     private static int spreadFrom(int seed, int one, int secret, int n) {
-        WhisperSeats x = Parks.drawn(seed);
+        WhisperSeats x = Parks.lived(seed);
         x.set(one, 1, x.of(one, 1) | 1 << secret);
         x.set(one, 2, x.of(one, 2) | 1 << secret);
         x.hours(n);
@@ -229,6 +284,10 @@ public final class SentencesOfBestTest {
                 Check.due("enough(" + one + ", " + v + ")", x.enough(one, v), hoursOfTalk(v));
             }
         }
+        for (int seed = 0; seed < SEEDS; seed++) {
+            enoughInDrawnPark(seed);
+        }
+        enoughBesideALover();
         enoughInJust(200, 200);
         enoughInJust(199, 199);
         WhisperSeats x = generals();
@@ -248,6 +307,30 @@ public final class SentencesOfBestTest {
         Check.due("HEARD is 9999", x.enough(0, 1), Check.NONE);
         Check.due("nothing is said", silent().enough(0, 1), Check.NONE);
         enoughInJust(201, Check.NONE);
+    }
+
+    private static void enoughInDrawnPark(int seed) {
+        WhisperSeats x = Parks.lived(seed);
+        int last = x.count(0) - 1;
+        int[] heard = new int[201];
+        for (int n = 0; n <= 200; n++) {
+            heard[n] = Parks.lived(seed, n).of(last, 5);
+        }
+        int[] wanted = {1, 2, 7};
+        for (int v : wanted) {
+            int due = Check.NONE;
+            for (int n = 200; n >= 0; n--) {
+                due = heard[n] >= heard[0] + v ? n : due;
+            }
+            Check.due("seed " + seed + ": enough(" + last + ", " + v + ")", x.enough(last, v), due);
+        }
+    }
+
+    private static void enoughBesideALover() {
+        WhisperSeats x = Check.pair(Check.GENERAL, Check.set(3, 7), Check.LOVER, Check.set(0, 1, 7));
+        Check.due("told of 3, a fourth one, the lover stays five hours", x.enough(1, 5), 5);
+        x.set(0, 2, Check.set(7));
+        Check.due("told of 7, which it knows, it goes and comes again", x.enough(1, 5), 6);
     }
 
     /** A wife, who hears a lover now and then, so many hours behind a Tuesday's first. */
@@ -296,13 +379,13 @@ public final class SentencesOfBestTest {
 
     private static void doubtInDrawnPark(int seed) {
         for (int n : WEIGHABLE_HOURS) {
-            Check.due("seed " + seed + ": doubt(" + n + ")", Parks.drawn(seed).doubt(n),
+            Check.due("seed " + seed + ": doubt(" + n + ")", Parks.lived(seed).doubt(n),
                 best(10, secret -> true, secret -> believedOtherwise(seed, secret, n)));
         }
     }
 
     private static int believedOtherwise(int seed, int secret, int n) {
-        WhisperSeats x = Parks.drawn(seed);
+        WhisperSeats x = Parks.lived(seed);
         x.sham(x.now(6) ^ 1 << secret);
         x.hours(n);
         return x.count(3);
@@ -314,8 +397,8 @@ public final class SentencesOfBestTest {
         int[] hours = {0, 1, 2, 100, 199, 200};
         for (int seed = 0; seed < SEEDS; seed++) {
             for (int n : hours) {
-                WhisperSeats then = Parks.later(seed, n);
-                Check.due("seed " + seed + ": wisest(" + n + ")", Parks.drawn(seed).wisest(n),
+                WhisperSeats then = Parks.lived(seed, n);
+                Check.due("seed " + seed + ": wisest(" + n + ")", Parks.lived(seed).wisest(n),
                     best(then.count(0), one -> true, one -> Integer.bitCount(then.of(one, 1))));
             }
         }
@@ -328,6 +411,10 @@ public final class SentencesOfBestTest {
         Check.due("of two the least", x.wisest(0), 5);
         x.set(7, 1, 1023);
         Check.due("the last knows all", x.wisest(0), 7);
+        x = Check.pair(Check.PERSON, Check.set(3, 7), Check.WIFE, Check.set(0, 7));
+        Check.due("told of 3, the wife knows more", x.wisest(1), 1);
+        x.set(0, 2, Check.set(7));
+        Check.due("told of 7, which is believed and known to both, she doesn't", x.wisest(1), 0);
         Check.due("whatever was asked before", askedBefore().wisest(0), 0);
         Doc.says("BEYOND.");
         int[] wrong = {-1, 201, Integer.MIN_VALUE, Integer.MAX_VALUE};

@@ -29,9 +29,11 @@ public final class SentencesOfHoursTest {
         x.set(0, 5, 9999);
         x.set(1, 5, 20);
         Check.due("one held to 9999, the other hears one", x.hours(1), 9999 + 21);
+        Whole.changes("hours(1)", y -> y.hours(1), 83, "now(0)=33", "now(1)=9", "count(2)=83", "count(3)=5",
+            "of(3, 4)=2", "of(4, 1)=4", "of(4, 2)=4", "of(4, 4)=1", "of(4, 5)=1", "of(4, 6)=2");
         for (int seed = 0; seed < SEEDS; seed++) {
-            WhisperSeats once = Parks.drawn(seed);
-            WhisperSeats hourly = Parks.drawn(seed);
+            WhisperSeats once = Parks.lived(seed);
+            WhisperSeats hourly = Parks.lived(seed);
             int heard = once.hours(100);
             for (int i = 0; i < 99; i++) {
                 hourly.hours(1);
@@ -107,9 +109,9 @@ public final class SentencesOfHoursTest {
         Doc.says("What one KNOWS (what 0), BELIEVES (1), as sets, its SEAT (2; -1) ON n HOURS (0 to 200).");
         int[] hours = {0, 1, 2, 99, 100, 101, 199, 200};
         for (int seed = 0; seed < SEEDS; seed++) {
-            WhisperSeats x = Parks.drawn(seed);
+            WhisperSeats x = Parks.lived(seed);
             for (int n : hours) {
-                WhisperSeats then = Parks.later(seed, n);
+                WhisperSeats then = Parks.lived(seed, n);
                 for (int i = 0; i < then.count(0); i++) {
                     String call = "seed " + seed + ": on(" + i + ", " + n + ", ";
                     Check.due(call + "0)", x.on(i, n, 0), then.of(i, 1));
@@ -144,9 +146,9 @@ public final class SentencesOfHoursTest {
         boolean isSo(WhisperSeats then);
     }
 
-    private static int first(int seed, int from, Moment moment) {
+    private static int first(int seed, Moment moment) {
         for (int n = 0; n <= FARTHEST; n++) {
-            if (moment.isSo(Parks.later(seed, from + n))) {
+            if (moment.isSo(Parks.lived(seed, n))) {
                 return n;
             }
         }
@@ -161,12 +163,12 @@ public final class SentencesOfHoursTest {
         Doc.part("Promise 14");
         Doc.says("In how many HOURS (0 to 200) ON one KNOWS a SECRET first.");
         for (int seed = 0; seed < SEEDS; seed++) {
-            WhisperSeats x = Parks.drawn(seed);
+            WhisperSeats x = Parks.lived(seed);
             for (int secret = 0; secret < 10; secret++) {
                 int one = secret % x.count(0);
                 int wanted = secret;
                 Check.due("seed " + seed + ": knows(" + one + ", " + secret + ")", x.knows(one, secret),
-                    first(seed, 0, then -> holds(then.of(one, 1), wanted)));
+                    first(seed, then -> holds(then.of(one, 1), wanted)));
             }
         }
         // In park 20 secret 8 comes to person 1 in 260 hours, and not before.
@@ -198,11 +200,11 @@ public final class SentencesOfHoursTest {
         Doc.part("Promise 15");
         Doc.says("In how many HOURS (0 to 200) ON a SECRET is OUT first.");
         for (int seed = 0; seed < SEEDS; seed++) {
-            WhisperSeats x = Parks.drawn(seed);
+            WhisperSeats x = Parks.lived(seed);
             for (int secret = 0; secret < 10; secret++) {
                 int wanted = secret;
                 Check.due("seed " + seed + ": out(" + secret + ")", x.out(secret),
-                    first(seed, 0, then -> holds(then.now(5), wanted)));
+                    first(seed, then -> holds(then.now(5), wanted)));
             }
         }
         // In park 20 secret 8 is out in 260 hours, and not before.
@@ -229,16 +231,26 @@ public final class SentencesOfHoursTest {
         return then.of(person, 3) >= 0 && then.of(other, 3) >= 0;
     }
 
+    /** How long a lover stays hangs on what it is told, and so on what the other one believes. */
+    private static void meetBehindALover() {
+        WhisperSeats x = Check.pair(Check.GENERAL, Check.set(3, 7), Check.LOVER, Check.set(0, 1, 7));
+        x.person(Check.WIFE);
+        Check.due("told of 3, a fourth one, the lover stays five hours", x.meet(0, 2), 5);
+        x.set(0, 2, Check.set(7));
+        Check.due("told of 7, which it knows, it stays four", x.meet(0, 2), 4);
+    }
+
     private static void meet() {
         Doc.part("Promise 16");
         Doc.says("In how many HOURS (0 to 200) ON two are ON the SEATS together first.");
         for (int seed = 0; seed < SEEDS; seed++) {
-            WhisperSeats x = Parks.drawn(seed);
+            WhisperSeats x = Parks.lived(seed);
             int last = x.count(0) - 1;
-            int due = first(seed, 0, then -> areTogether(then, 0, last));
+            int due = first(seed, then -> areTogether(then, 0, last));
             Check.due("seed " + seed + ": meet(0, " + last + ")", x.meet(0, last), due);
             Check.due("seed " + seed + ": meet(" + last + ", 0)", x.meet(last, 0), due);
         }
+        meetBehindALover();
         // In park 88 persons 5 and 7 sit together in 246 hours, and not before.
         int together = 0;
         for (int n = 0; n < 246; n++) {

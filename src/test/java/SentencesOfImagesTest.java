@@ -45,6 +45,7 @@ public final class SentencesOfImagesTest {
         Check.due("nor are numbers", y.write(0, 1, 0), 9);
         Check.due("nor are sheets", y.write(3, 1, 0), 0);
         Check.due("image() of nobody", new WhisperSeats().image(), 1);
+        Whole.changes("image()", z -> z.image(), 1, "image=other");
         hoursGoOnAlike();
     }
 
@@ -83,6 +84,9 @@ public final class SentencesOfImagesTest {
         Check.due("and stays", x.undo(), 8);
         Check.due("HOUR", x.now(0), 0);
         Check.due("known to 7", x.of(7, 1), 1023);
+        Whole.changes("undo()", z -> z.undo(), 5, "count(2)=1", "count(3)=2", "now(0)=26", "now(1)=2", "now(3)=0", "now(4)=1",
+            "now(7)=1", "of(0, 3)=0", "of(0, 4)=1", "of(1, 3)=1", "of(1, 4)=1", "of(1, 5)=1", "of(2, 1)=8", "of(2, 2)=0",
+            "of(2, 5)=0", "of(3, 3)=-1", "of(3, 4)=0", "of(3, 5)=0", "of(4, 0)=3", "of(4, 3)=-1", "of(4, 7)=6");
         Doc.says("NONE: nothing is kept.");
         WhisperSeats y = new WhisperSeats();
         y.person(0);
@@ -108,6 +112,7 @@ public final class SentencesOfImagesTest {
         x.image();
         x.undo();
         Check.due("undo() leaves it", x.tear(), 1);
+        Whole.changes("tear()", y -> y.tear(), 1, "image=none");
     }
 
     private static void count() {

@@ -61,6 +61,7 @@ public final class SentencesOfPeopleTest {
         Check.due("sham(512)", x.sham(512), 1023);
         Check.due("sham(0) again", x.sham(0), 512);
         Check.due("now(6) again", x.now(6), 0);
+        Whole.changes("sham(16)", y -> y.sham(16), 132, "now(6)=16", "of(3, 6)=4");
         Doc.says("BEYOND.");
         x.sham(7);
         for (int set : NO_SETS) {
@@ -107,6 +108,8 @@ public final class SentencesOfPeopleTest {
             Check.due("SEAT", x.of(i, 3), -1);
         }
         newWhereAnotherOneWas();
+        Whole.changes("person(2)", y -> y.person(Check.GENERAL), 5, "count(0)=6", "of(5, 0)=2", "of(5, 1)=0", "of(5, 2)=0",
+            "of(5, 3)=-1", "of(5, 4)=0", "of(5, 5)=0", "of(5, 6)=2", "of(5, 7)=9");
         Doc.says("BEYOND: kind.");
         WhisperSeats y = new WhisperSeats();
         for (int kind : NO_KINDS) {
@@ -191,6 +194,14 @@ public final class SentencesOfPeopleTest {
         Check.due("HEARD 1", x.set(2, 5, 1), 0);
         dueOf("the others", x, 0, 0, 0, 0, -1, 0, 0, -1, 3);
         dueOf("the others", x, 1, 4, 0, 0, -1, 0, 0, -1, 4);
+        Whole.changes("set(3, 1, 32)", y -> y.set(3, 1, 32), 0, "of(3, 1)=32");
+        Whole.changes("set(2, 1, 228)", y -> y.set(2, 1, Check.set(2, 5, 6, 7)), 28,
+            "of(2, 1)=228", "of(2, 2)=4", "of(2, 7)=5", "count(3)=3");
+        Whole.changes("set(0, 2, 258)", y -> y.set(0, 2, Check.set(1, 8)), 16, "of(0, 2)=258", "of(0, 6)=1", "count(3)=5");
+        Whole.changes("set(2, 2, 4)", y -> y.set(2, 2, Check.set(2)), 20, "of(2, 2)=4", "count(3)=3");
+        Whole.changes("set(3, 1, 32), set(3, 2, 32)", y -> y.set(3, 1, 32) + y.set(3, 2, 32), 0,
+            "of(3, 1)=32", "of(3, 2)=32", "count(3)=5");
+        Whole.changes("set(3, 5, 0)", y -> y.set(3, 5, 0), 77, "of(3, 5)=0", "count(2)=5");
     }
 
     private static void setBeyond() {
@@ -244,6 +255,8 @@ public final class SentencesOfPeopleTest {
         Check.due("turn(2, 0)", x.turn(2, 0), Check.SPY);
         dueOf("all else stays", x, 2, 0, 6, 4, 1, 1, 3, 2, 3);
         Check.due("the others stay", x.of(0, 0) * 10 + x.of(1, 0), 4);
+        Whole.changes("turn(3, 0)", y -> y.turn(3, Check.PERSON), Check.GENERAL, "of(3, 0)=0", "of(3, 6)=-1", "of(3, 7)=3");
+        Whole.changes("turn(2, 1)", y -> y.turn(2, Check.ACTOR), Check.LOVER, "of(2, 0)=1", "of(2, 6)=4");
         Doc.says("BEYOND.");
         for (int kind : NO_KINDS) {
             Check.due("turn(2, " + kind + ")", x.turn(2, kind), Check.BEYOND);
@@ -311,6 +324,9 @@ public final class SentencesOfPeopleTest {
         Check.due("hasn't sat", x.of(1, 4), 0);
         Check.due("and goes again", x.sit(1, -1), -1);
         Check.due("the other one stays", x.now(3), 0);
+        Whole.changes("sit(3, 1)", y -> y.sit(3, 1), 1, "of(3, 4)=0");
+        Whole.changes("sit(3, -1)", y -> y.sit(3, -1), 1, "of(3, 3)=-1", "of(3, 4)=0", "now(4)=-1");
+        Whole.changes("sit(4, -1)", y -> y.sit(4, -1), 0, "of(4, 3)=-1", "now(3)=-1");
     }
 
     private static void sitFindings() {

@@ -68,6 +68,11 @@ public final class SentencesOfSheetsTest {
         Check.due("and 40 again", x.sheet(0, 16, 40), 40);
         Check.due("all 0, also those that were cut off", x.write(0, 39, 5), 0);
         Check.due("another sheet is still MISSING", x.write(1, 0, 5), Check.MISSING);
+        Whole.changes("sheet(0, 64, 2)", y -> y.sheet(0, 64, 2), 2, "sheet 0 size=2", "sheet 0 number 1=0",
+            "sheet 0 number 2=gone", "sheet 0 keeps=81985529216486895");
+        Whole.changes("sheet(1, 0, 2)", y -> y.sheet(1, 0, 2), 0, "sheet 1 size=missing", "sheet 1 number 0=gone",
+            "sheet 1 number 1=gone", "sheet 1 keeps=-1000000006");
+        Whole.changes("sheet(3, 8, 1)", y -> y.sheet(3, 8, 1), 1, "sheet 3 size=1", "sheet 3 number 0=0", "sheet 3 keeps=-17");
     }
 
     private static void sheetFindings() {
@@ -119,6 +124,7 @@ public final class SentencesOfSheetsTest {
                 Check.due(bits + " bits: no finding", x.status(-1), 0);
             }
         }
+        Whole.changes("write(0, 2, 70000)", y -> y.write(0, 2, 70000), 0, "sheet 0 number 2=4464");
     }
 
     private static void writeFindings() {
@@ -190,6 +196,7 @@ public final class SentencesOfSheetsTest {
         Check.due("forty", x.copy(0, 0, 1, 0, 40), 40);
         Check.due("the first", x.write(1, 0, 0), 7);
         Check.due("the last", x.write(1, 39, 0), Long.MIN_VALUE);
+        Whole.changes("copy(0, 1, 0, 0, 1)", y -> y.copy(0, 1, 0, 0, 1), 1, "sheet 0 number 0=513");
     }
 
     private static void copyFindings() {
@@ -253,6 +260,8 @@ public final class SentencesOfSheetsTest {
         }
         Check.due("heard by nobody", x.count(2), 0);
         laysOfFewBits();
+        Whole.changes("lays(0)", y -> y.lays(0), 3, "of(0, 1)=0", "of(0, 2)=0", "of(0, 6)=-1", "of(1, 1)=513", "of(1, 2)=0",
+            "of(2, 1)=0", "of(2, 2)=0", "count(3)=0");
         Doc.says("BEYOND: no such sheet.");
         for (int s : NO_SHEETS) {
             Check.due("lays(" + s + ")", x.lays(s), Check.BEYOND);
@@ -292,12 +301,12 @@ public final class SentencesOfSheetsTest {
         Doc.part("Promise 30");
         Doc.says("A book: what one KNOWS (as a set) ON 0, 1, 2, .. HOURS comes to a sheet, as many as it has numbers: how many.");
         for (int seed = 0; seed < SEEDS; seed++) {
-            WhisperSeats x = Parks.drawn(seed);
+            WhisperSeats x = Parks.lived(seed);
             int last = x.count(0) - 1;
             x.sheet(2, 64, 40);
             Check.due("seed " + seed + ": book(2, " + last + ")", x.book(2, last), 40);
             for (int i = 0; i < 40; i++) {
-                Check.due("seed " + seed + ": number " + i, number(x, 2, i), Parks.later(seed, i).of(last, 1));
+                Check.due("seed " + seed + ": number " + i, number(x, 2, i), Parks.lived(seed, i).of(last, 1));
             }
         }
         WhisperSeats x = talkers();
@@ -317,6 +326,7 @@ public final class SentencesOfSheetsTest {
         dueRow("all ten, the lowest bits of it", x, 0, -1);
         Check.due("HOUR", x.now(0), 24);
         Check.due("HEARD", x.count(2), 0);
+        Whole.changes("book(0, 4)", y -> y.book(0, 4), 3, "sheet 0 number 1=4", "sheet 0 number 2=4");
     }
 
     private static void bookFindings() {
@@ -347,7 +357,7 @@ public final class SentencesOfSheetsTest {
         Doc.says("THE READER: numbers of a sheet are what one KNOWS (as a set) ON 0, 1, 2, .. HOURS: "
             + "how many pairs of a KIND of it and a KIND of another one make it just so.");
         for (int seed = 0; seed < SEEDS; seed++) {
-            WhisperSeats x = Parks.drawn(seed);
+            WhisperSeats x = Parks.lived(seed);
             int last = x.count(0) - 1;
             x.sheet(1, 16, 40);
             x.book(1, last);
@@ -358,11 +368,11 @@ public final class SentencesOfSheetsTest {
 
     /** How many pairs write the book that is written in a drawn park as it is. */
     private static int pairs(int seed, int one, int other) {
-        String written = bookOf(Parks.drawn(seed), one);
+        String written = bookOf(Parks.lived(seed), one);
         int pairs = 0;
         for (int kind = 0; kind < 6; kind++) {
             for (int otherKind = 0; otherKind < 6; otherKind++) {
-                WhisperSeats x = Parks.drawn(seed);
+                WhisperSeats x = Parks.lived(seed);
                 x.turn(one, kind);
                 x.turn(other, otherKind);
                 pairs += bookOf(x, one).equals(written) ? 1 : 0;

@@ -97,6 +97,8 @@ public final class SentencesOfTermsTest {
         Whole.refuses("as(0, 1)", x -> x.as(0, 1), Check.KIND);
         Whole.refuses("sit(0, 2)", x -> x.sit(0, 2), Check.BEYOND);
         Whole.refuses("sit(1, 0), held", SentencesOfTermsTest::holdSeat, x -> x.sit(1, 0), Check.STATE);
+        Whole.refuses("sit(3, 0), held, from seat 1", x -> x.sit(3, 0), Check.STATE);
+        Whole.refuses("sit(4, 1), held, from seat 0", x -> x.sit(4, 1), Check.STATE);
         Whole.refuses("trusts(0, 10)", x -> x.trusts(0, 10), Check.BEYOND);
     }
 
@@ -576,15 +578,22 @@ public final class SentencesOfTermsTest {
     }
 
     private static void comesRound() {
-        WhisperSeats x = Check.tuesday(0, 0, 0, 0, 0, 0, 0, 0);
-        Check.due("WHO CAME LAST at first", x.now(7), -1);
-        x.hours(1);
-        for (int turn = 0; turn < 5; turn++) {
-            int first = 2 * turn % 8;
-            Check.due("turn " + turn + ": seat 0", x.now(3), first);
-            Check.due("turn " + turn + ": seat 1", x.now(4), first + 1);
-            Check.due("turn " + turn + ": WHO CAME LAST", x.now(7), first + 1);
-            x.hours(3);
+        // From these hours on a week's turns of three hours end at each hour of each day.
+        for (int from = 0; from < 3; from++) {
+            WhisperSeats x = at(from);
+            Check.people(x, 0, 0, 0, 0, 0, 0, 0, 0);
+            Check.due("WHO CAME LAST at first", x.now(7), -1);
+            x.hours(1);
+            for (int turn = 0; turn < 60; turn++) {
+                int first = 2 * turn % 8;
+                String when = "from " + from + ", turn " + turn;
+                Check.due(when + ": seat 0", x.now(3), first);
+                Check.due(when + ": seat 1", x.now(4), first + 1);
+                Check.due(when + ": WHO CAME LAST", x.now(7), first + 1);
+                x.hours(2);
+                Check.due(when + ": still there", x.now(3) * 10 + x.now(4), first * 11 + 1);
+                x.hours(1);
+            }
         }
     }
 
@@ -682,11 +691,22 @@ public final class SentencesOfTermsTest {
     }
 
     private static void tokens() {
+        String[] names = {"person", "actor", "general", "wife", "lover", "spy"};
+        for (String name : names) {
+            items(name, 1);
+            faultAt(name + "s", 0);
+            faultAt(name + name, 0);
+            faultAt(name.substring(1), 0);
+            faultAt(name.substring(0, name.length() - 1), 0);
+        }
+        faultAt("spy knowson 1", 4);
+        faultAt("spy onn 1", 4);
         faultAt("spyknows 1", 0);
         faultAt("spya", 0);
         faultAt("spyz", 0);
         faultAt("aspy", 0);
         faultAt("shamsham 1", 0);
+        faultAt("truetrue 1", 0);
         faultAt("sham 12", 5);
         faultAt("spy knows 12", 10);
         items("spy knows 1 2", 1);
@@ -699,7 +719,7 @@ public final class SentencesOfTermsTest {
         // Wrapped round in 32 bits these would be 0 and 1.
         faultAt("sham 4294967296", 5);
         faultAt("sham 4294967297", 5);
-        char[] strays = {'`', '{', 'A', 'Z', '/', ':', '-', ',', '<', 9, 10, 0, 127, 128, 160, 255};
+        char[] strays = {'`', '{', 'A', 'S', 'Z', '/', ':', '-', ',', '<', 0, 9, 10, 11, 12, 13, 31, 33, 127, 128, 160, 255};
         for (char stray : strays) {
             faultAt("sham 1" + stray, 6);
             faultAt(stray + "sham 1", 0);

@@ -24,6 +24,7 @@ public final class SentencesOfTextTest {
         for (int has = 8; has <= 120; has += 4) {
             Check.due("up to " + has, x.feed(-1, 4), has);
         }
+        Whole.changes("feed(';', 1)", y -> y.feed(';', 1), 19, "count(1)=19", "text=-20");
         Doc.says("BEYOND: n.");
         int[] wrong = {0, -1, 5, 8, Integer.MIN_VALUE, Integer.MAX_VALUE};
         for (int n : wrong) {
@@ -76,6 +77,7 @@ public final class SentencesOfTextTest {
         Check.due("fed anew", x.feed('s' << 16 | 'p' << 8 | 'y', 3), 3);
         Check.due("nothing of the old one is left", x.park(), 1);
         Check.due("no finding", x.status(-1), 0);
+        Whole.changes("wipe()", y -> y.wipe(), 18, "count(1)=0", "text=-1");
     }
 
     private static void park() {
@@ -101,6 +103,17 @@ public final class SentencesOfTextTest {
         Check.due("WHO CAME LAST", x.now(7), 1);
         Check.due("two more items", Check.park(x, "spy;sham 1"), 2);
         Check.due("the fourth", x.of(3, 0), Check.SPY);
+        Whole.changes("park() of two items", y -> y.park(), 2, "now(6)=164", "count(0)=6", "count(1)=0", "text=-1",
+            "of(5, 0)=5", "of(5, 1)=8", "of(5, 2)=0", "of(5, 3)=-1", "of(5, 4)=0", "of(5, 5)=0", "of(5, 6)=-1", "of(5, 7)=6");
+        Whole.changes("park() of one item", SentencesOfTextTest::oneItem, 1, "now(6)=128", "of(3, 6)=7", "count(1)=0", "text=-1");
+        WhisperSeats many = new WhisperSeats();
+        Check.due("twenty items", Check.park(many, "sham0;".repeat(18) + "sham 3;true0"), 20);
+        Check.due("they came", many.now(6), Check.set(3));
+    }
+
+    private static int oneItem(WhisperSeats x) {
+        x.wipe();
+        return Check.park(x, "true 2");
     }
 
     private static void parkWithFault() {

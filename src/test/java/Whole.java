@@ -1,10 +1,26 @@
+import java.util.LinkedHashMap;
+import java.util.List;
+import java.util.Map;
+import java.util.TreeSet;
 import java.util.function.Consumer;
 import java.util.function.ToLongFunction;
 
-/** All that an object holds, told by its own answers, so that an act can be seen to change nothing. */
+/** All that an object holds, told by its own answers, so that an act can be seen to change just what it should. */
 final class Whole {
     /** Of these, 8, 16 and 64 bits keep different numbers. */
     private static final long BITS = 0x0123456789abcdefL;
+    /** What follows from all else: what the people are like when THE TAPE has been read. */
+    private static final String BEHIND_THE_TEXT = "behind the text";
+
+    /** What count, now and of tell of a rich park, and of its image when THE TAPE is empty. */
+    private static final int[][] PARK = {{5, 18, 82, 4}, {32, 8, 0, 4, 3, 0, 132, 4},
+        {0, 274, 16, -1, 0, 0, 4, 3}, {5, 529, 16, -1, 0, 3, -1, 6}, {4, 28, 20, -1, 0, 2, -1, 4},
+        {2, 0, 0, 1, 1, 77, 2, 9}, {1, 0, 0, 0, 0, 0, -1, 4}};
+    private static final int[][] IMAGE = {{5, 0, 1, 2}, {26, 2, 0, 0, 1, 0, 132, 1},
+        {0, 274, 16, 0, 1, 0, 4, 3}, {5, 529, 16, 1, 1, 1, -1, 6}, {4, 8, 0, -1, 0, 0, -1, 4},
+        {2, 0, 0, -1, 0, 0, 2, 9}, {3, 0, 0, -1, 0, 0, -1, 6}};
+    /** What sheets 0 to 2 keep of BITS, ahead of their numbers; the last one is missing. */
+    private static final long[][] SHEETS = {{-12817, 0, 513, 0}, {-17, -56, 0}, thirdSheet()};
 
     private Whole() {
     }
@@ -32,48 +48,84 @@ final class Whole {
         return x;
     }
 
-    /** Asks so much that the object is of no use behind it. */
-    static String of(WhisperSeats x) {
-        StringBuilder told = new StringBuilder();
-        people(x, told);
+    private static long[] thirdSheet() {
+        long[] sheet = new long[41];
+        sheet[0] = BITS;
+        sheet[40] = BITS;
+        return sheet;
+    }
+
+    /** A rich park as it must be, whatever the calls that make it do. */
+    private static Map<String, String> due() {
+        Map<String, String> due = new LinkedHashMap<>(people(PARK));
+        for (int s = 0; s < SHEETS.length; s++) {
+            due.put("sheet " + s + " keeps", "" + SHEETS[s][0]);
+            for (int i = 1; i < SHEETS[s].length; i++) {
+                due.put("sheet " + s + " number " + (i - 1), "" + SHEETS[s][i]);
+            }
+            due.put("sheet " + s + " size", "" + (SHEETS[s].length - 1));
+        }
+        due.put("sheet 3 keeps", "" + Check.MISSING);
+        due.put("sheet 3 size", "missing");
+        due.put("text", "2");
+        due.put("image", people(IMAGE).toString());
+        return due;
+    }
+
+    private static Map<String, String> people(int[][] told) {
+        Map<String, String> people = new LinkedHashMap<>();
+        for (int row = 0; row < told.length; row++) {
+            for (int what = 0; what < told[row].length; what++) {
+                String call = row == 0 ? "count(" : row == 1 ? "now(" : "of(" + (row - 2) + ", ";
+                people.put(call + what + ")", "" + told[row][what]);
+            }
+        }
+        return people;
+    }
+
+    /** Each thing by its name. Asks so much that the object is of no use behind it. */
+    private static Map<String, String> told(WhisperSeats x) {
+        Map<String, String> told = new LinkedHashMap<>(people(x));
         for (int s = 0; s < 4; s++) {
             sheet(x, s, told);
         }
-        told.append("\ntext ").append(x.park());
-        people(x, told);
-        told.append("\nundone ").append(x.undo());
-        people(x, told);
-        return told.toString();
+        told.put("text", "" + x.park());
+        told.put(BEHIND_THE_TEXT, people(x).toString());
+        told.put("image", x.undo() == Check.NONE ? "none" : people(x).toString());
+        return told;
     }
 
-    private static void people(WhisperSeats x, StringBuilder told) {
-        told.append("\ncount");
+    static String of(WhisperSeats x) {
+        return told(x).toString();
+    }
+
+    private static Map<String, String> people(WhisperSeats x) {
+        Map<String, String> told = new LinkedHashMap<>();
         for (int what = 0; what < 4; what++) {
-            told.append(' ').append(x.count(what));
+            told.put("count(" + what + ")", "" + x.count(what));
         }
-        told.append("\nnow");
         for (int what = 0; what < 8; what++) {
-            told.append(' ').append(x.now(what));
+            told.put("now(" + what + ")", "" + x.now(what));
         }
         int people = x.count(0);
         for (int i = 0; i < people; i++) {
-            told.append("\nof ").append(i);
             for (int what = 0; what < 8; what++) {
-                told.append(' ').append(x.of(i, what));
+                told.put("of(" + i + ", " + what + ")", "" + x.of(i, what));
             }
         }
+        return told;
     }
 
-    private static void sheet(WhisperSeats x, int s, StringBuilder told) {
-        told.append("\nsheet ").append(s);
+    private static void sheet(WhisperSeats x, int s, Map<String, String> told) {
         for (int i = 0; i < 41; i++) {
             long number = x.write(s, i, BITS);
-            told.append(' ').append(number);
             if (number == Check.BEYOND || number == Check.MISSING) {
+                told.put("sheet " + s + " size", number == Check.MISSING ? "missing" : "" + i);
                 break;
             }
+            told.put("sheet " + s + " number " + i, "" + number);
         }
-        told.append(" bits ").append(x.write(s, 0, 0));
+        told.put("sheet " + s + " keeps", "" + x.write(s, 0, 0));
     }
 
     /** The act answers this finding on a rich park, prepared first; it is counted, and all else stays. */
@@ -109,7 +161,37 @@ final class Whole {
         String due = of(twin);
         Check.due(call + " leaves all as it was", told.equals(due) ? 1 : 0, 1);
         if (!told.equals(due)) {
-            System.out.println("it was:" + due + "\nit is:" + told);
+            System.out.println("it was: " + due + "\nit is: " + told);
         }
+    }
+
+    /**
+     * The act answers this on a rich park, without a finding, and changes just these things, each told as
+     * "name=value"; a value of "other" stands for any but what it was, "gone" for a thing that there isn't any more.
+     */
+    static void changes(String call, ToLongFunction<WhisperSeats> act, long answer, String... changes) {
+        WhisperSeats x = rich();
+        Check.due(call, act.applyAsLong(x), answer);
+        Check.due(call + ", then status(-1)", x.status(-1), 0);
+        TreeSet<String> got = difference(due(), told(x), List.of(changes));
+        TreeSet<String> due = new TreeSet<>(List.of(changes));
+        Check.due(call + " changes just what it should", got.equals(due) ? 1 : 0, 1);
+        if (!got.equals(due)) {
+            System.out.println("due is: " + due + "\nit changes: " + got);
+        }
+    }
+
+    private static TreeSet<String> difference(Map<String, String> was, Map<String, String> is, List<String> due) {
+        TreeSet<String> names = new TreeSet<>(was.keySet());
+        names.addAll(is.keySet());
+        names.remove(BEHIND_THE_TEXT);
+        TreeSet<String> difference = new TreeSet<>();
+        for (String name : names) {
+            String value = is.getOrDefault(name, "gone");
+            if (!value.equals(was.get(name))) {
+                difference.add(name + "=" + (due.contains(name + "=other") ? "other" : value));
+            }
+        }
+        return difference;
     }
 }
