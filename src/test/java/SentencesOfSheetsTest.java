@@ -362,6 +362,8 @@ public final class SentencesOfSheetsTest {
             x.sheet(1, 16, 40);
             x.book(1, last);
             Check.due("seed " + seed + ": read(1, " + last + ", 0)", x.read(1, last, 0), pairs(seed, last, 0));
+            x.book(1, 0);
+            Check.due("seed " + seed + ": read(1, 0, 1)", x.read(1, 0, 1), pairs(seed, 0, 1));
         }
         readOfFew();
     }

@@ -434,7 +434,9 @@ public final class SentencesOfTermsTest {
         alone();
         heardAndTrusted();
         heardAndDoubted();
+        heardByAllKinds();
         mondays();
+        mondaysOfAllKinds();
         mondayEdges();
         Doc.says("Then each ON a SEAT has sat 1 hour more; "
             + "one that has sat as long as it STAYS, or longer, goes (ON none).");
@@ -504,6 +506,42 @@ public final class SentencesOfTermsTest {
         Check.due("an actor on seat 1 trusts all", x.of(1, 2), Check.set(9));
     }
 
+    /** Each kind on each seat, told of 5 by an actor. */
+    private static void heardByAllKinds() {
+        for (int kind = 0; kind < 6; kind++) {
+            for (int seat = 0; seat < 2; seat++) {
+                WhisperSeats x = Check.pair(Check.ACTOR, Check.set(5), Check.ACTOR, Check.set(5));
+                x.turn(seat, kind);
+                x.set(seat, 1, 0);
+                x.hours(1);
+                String who = "kind " + kind + " on seat " + seat;
+                Check.due(who + " knows it", x.of(seat, 1), Check.set(5));
+                Check.due(who + " believes it", x.of(seat, 2), Check.set(5));
+                Check.due(who + " heard it", x.of(seat, 5), 1);
+                x.hours(1);
+                Check.due(who + " heard it again", x.of(seat, 5), 2);
+            }
+        }
+    }
+
+    /** At hour 12 all but a wife say what they know; each hears itself alone. */
+    private static void mondaysOfAllKinds() {
+        for (int kind = 0; kind < 6; kind++) {
+            WhisperSeats x = at(12);
+            Check.people(x, kind, kind);
+            x.set(0, 1, Check.set(3));
+            x.set(1, 1, Check.set(4));
+            x.sit(0, 0);
+            x.sit(1, 1);
+            Check.due("kind " + kind + ": HEARD", x.hours(1), 0);
+            for (int seat = 0; seat < 2; seat++) {
+                int own = Check.set(3 + seat);
+                Check.due("kind " + kind + " on seat " + seat + " knows", x.of(seat, 1), own);
+                Check.due("kind " + kind + " on seat " + seat + " believes", x.of(seat, 2), kind == Check.WIFE ? 0 : own);
+            }
+        }
+    }
+
     private static void mondays() {
         WhisperSeats x = new WhisperSeats();
         Check.people(x, Check.PERSON, Check.GENERAL);
@@ -522,6 +560,18 @@ public final class SentencesOfTermsTest {
         Check.due("what is believed already stays believed", x.of(0, 2), Check.set(2));
         Check.due("the general trusts itself, even sham", x.of(1, 2), Check.set(5, 6));
         Check.due("HEARD of all", x.count(2), 0);
+        for (int silent = 0; silent < 2; silent++) {
+            WhisperSeats y = new WhisperSeats();
+            Check.people(y, Check.ACTOR, Check.ACTOR);
+            y.turn(silent, Check.WIFE);
+            y.set(0, 1, Check.set(3));
+            y.set(1, 1, Check.set(3));
+            y.sit(0, 0);
+            y.sit(1, 1);
+            y.hours(1);
+            Check.due("it believes itself, though the other one is silent", y.of(1 - silent, 2), Check.set(3));
+            Check.due("the silent one hears nothing to believe", y.of(silent, 2), 0);
+        }
     }
 
     /** Sunday's last hour ahead of the moon is the sixth day's 21; the next Monday's first is 168. */
@@ -562,6 +612,11 @@ public final class SentencesOfTermsTest {
         x.hours(3);
         Check.due("in the moon, too", x.of(0, 4), 3);
         loverToldInItsLastHour();
+        for (int kind = 0; kind < 6; kind++) {
+            x = Check.pair(kind, Check.set(1), Check.ACTOR, Check.set(2));
+            x.hours(2);
+            Check.due("of kind " + kind + ", hearing all the while", x.of(0, 4), 2);
+        }
     }
 
     private static void loverToldInItsLastHour() {
@@ -714,6 +769,12 @@ public final class SentencesOfTermsTest {
         items("   spy   knows   1   ;   sham   2   ", 2);
         items("sham 000", 1);
         items("sham 0009", 1);
+        WhisperSeats x = new WhisperSeats();
+        Check.due("noughts ahead of 9 and of 1", Check.park(x, "sham 09;sham 001"), 2);
+        Check.due("are left out", x.now(6), Check.set(1, 9));
+        faultAt("sham 010", 5);
+        faultAt("sham 90", 5);
+        faultAt("spy on 10", 7);
         faultAt("sham 999", 5);
         faultAt("sham 1000", 5);
         // Wrapped round in 32 bits these would be 0 and 1.
@@ -722,6 +783,8 @@ public final class SentencesOfTermsTest {
         char[] strays = {'`', '{', 'A', 'S', 'Z', '/', ':', '-', ',', '<', 0, 9, 10, 11, 12, 13, 31, 33, 127, 128, 160, 255};
         for (char stray : strays) {
             faultAt("sham 1" + stray, 6);
+            faultAt("spy" + stray, 3);
+            faultAt("spy knows" + stray + "1", 9);
             faultAt(stray + "sham 1", 0);
         }
     }
