@@ -202,6 +202,7 @@ public final class SentencesOfPeopleTest {
         Whole.changes("set(3, 1, 32), set(3, 2, 32)", y -> y.set(3, 1, 32) + y.set(3, 2, 32), 0,
             "of(3, 1)=32", "of(3, 2)=32", "count(3)=5");
         Whole.changes("set(3, 5, 0)", y -> y.set(3, 5, 0), 77, "of(3, 5)=0", "count(2)=5");
+        Whole.changes("set(2, 5, 9)", y -> y.set(2, 5, 9), 2, "of(2, 5)=9", "count(2)=89");
     }
 
     private static void setBeyond() {
@@ -327,6 +328,7 @@ public final class SentencesOfPeopleTest {
         Whole.changes("sit(3, 1)", y -> y.sit(3, 1), 1, "of(3, 4)=0");
         Whole.changes("sit(3, -1)", y -> y.sit(3, -1), 1, "of(3, 3)=-1", "of(3, 4)=0", "now(4)=-1");
         Whole.changes("sit(4, -1)", y -> y.sit(4, -1), 0, "of(4, 3)=-1", "now(3)=-1");
+        Whole.changes("sit(4, -1), sit(2, 0)", y -> y.sit(4, -1) + y.sit(2, 0), -1, "of(4, 3)=-1", "of(2, 3)=0", "now(3)=2");
     }
 
     private static void sitFindings() {
